@@ -1023,6 +1023,8 @@ public final class LooseEnds {
 
     /** All that ACTS change but the LOG. Whoever hands in an END has looked whether there is such a one. */
     private static final class State {
+        // four numbers of each END, five more: so many a row needs that keeps it all
+        static final int CELLS = 4 * MOST_ENDS + 5;
         final int[] colours = new int[MOST_ENDS];
         final int[] lengths = new int[MOST_ENDS];
         final int[] behind = new int[MOST_ENDS];
@@ -1033,6 +1035,39 @@ public final class LooseEnds {
         int made;
         int coins;
         int day;
+
+        /** Writes all of it into a row from a place on. */
+        void writeTo(int[] row, int at) {
+            if (at < 0 || at > row.length - CELLS) {
+                return;
+            }
+            System.arraycopy(colours, 0, row, at, MOST_ENDS);
+            System.arraycopy(lengths, 0, row, at + MOST_ENDS, MOST_ENDS);
+            System.arraycopy(behind, 0, row, at + 2 * MOST_ENDS, MOST_ENDS);
+            System.arraycopy(ahead, 0, row, at + 3 * MOST_ENDS, MOST_ENDS);
+            int rest = at + 4 * MOST_ENDS;
+            row[rest] = sold;
+            row[rest + 1] = tries;
+            row[rest + 2] = made;
+            row[rest + 3] = coins;
+            row[rest + 4] = day;
+        }
+
+        void readFrom(int[] row, int at) {
+            if (at < 0 || at > row.length - CELLS) {
+                return;
+            }
+            System.arraycopy(row, at, colours, 0, MOST_ENDS);
+            System.arraycopy(row, at + MOST_ENDS, lengths, 0, MOST_ENDS);
+            System.arraycopy(row, at + 2 * MOST_ENDS, behind, 0, MOST_ENDS);
+            System.arraycopy(row, at + 3 * MOST_ENDS, ahead, 0, MOST_ENDS);
+            int rest = at + 4 * MOST_ENDS;
+            sold = row[rest];
+            tries = row[rest + 1];
+            made = row[rest + 2];
+            coins = row[rest + 3];
+            day = row[rest + 4];
+        }
 
         void begin(Mill mill) {
             ends = mill.ends;
@@ -1187,19 +1222,13 @@ public final class LooseEnds {
         // with 40 DAYS undone the 60 ahead of them are told again
         private static final int SLOTS = MOST_ACTS + MOST_LOGGED;
         private static final int PARTS = 3;
-        private final State[] acts = new State[MOST_ACTS];
+        private final int[] acts = new int[MOST_ACTS * State.CELLS];
         private final int[] logged = new int[SLOTS * PARTS];
-        private final State imaged = new State();
+        private final int[] imaged = new int[State.CELLS];
         private final int[] imagedLog = new int[SLOTS * PARTS];
         private boolean hasImage;
         private int next;
         int size;
-
-        Memory() {
-            for (int i = 0; i < MOST_ACTS; i++) {
-                acts[i] = new State();
-            }
-        }
 
         void forget() {
             size = 0;
@@ -1209,7 +1238,7 @@ public final class LooseEnds {
 
         /** Keeps what is ahead of an ACT. */
         void keep(State now) {
-            acts[next].copyFrom(now);
+            now.writeTo(acts, next * State.CELLS);
             next = (next + 1) % MOST_ACTS;
             size = Math.min(MOST_ACTS, size + 1);
         }
@@ -1220,7 +1249,7 @@ public final class LooseEnds {
             }
             next = (next + MOST_ACTS - 1) % MOST_ACTS;
             size--;
-            now.copyFrom(acts[next]);
+            now.readFrom(acts, next * State.CELLS);
             return true;
         }
 
@@ -1247,7 +1276,7 @@ public final class LooseEnds {
         }
 
         void keepImage(State now) {
-            imaged.copyFrom(now);
+            now.writeTo(imaged, 0);
             System.arraycopy(logged, 0, imagedLog, 0, logged.length);
             hasImage = true;
         }
@@ -1256,7 +1285,7 @@ public final class LooseEnds {
             if (!hasImage) {
                 return false;
             }
-            now.copyFrom(imaged);
+            now.readFrom(imaged, 0);
             System.arraycopy(imagedLog, 0, logged, 0, logged.length);
             size = 0;
             return true;
@@ -1368,6 +1397,7 @@ public final class LooseEnds {
         private final int[] rows = new int[SETS * MOST_ENDS];
         private final int[] fills = new int[SETS];
         private final int[] bundles = new int[MOST_ENDS];
+        private int mostJoined;
         int best;
         int bestRow;
 
@@ -1397,12 +1427,24 @@ public final class LooseEnds {
                 openFrom[end] = openFrom[end + 1] + (partners[end] == 0 ? 0 : 1);
             }
             best = NONE;
+            mostJoined = countBundles() - 1;
             chooseKnot(0, 0, 0);
+        }
+
+        /** TALES and single ENDS, not SOLD: each KNOT makes one of two. */
+        private int countBundles() {
+            int found = 0;
+            for (int end = 0; end < now.ends; end++) {
+                if (!now.isSold(end) && now.ahead[end] == NONE) {
+                    found++;
+                }
+            }
+            return found;
         }
 
         /** Goes through the rows, the least first, so that of several the first one found stays. */
         private void chooseKnot(int end, int made, int row) {
-            if (end > now.ends || made + openFrom[end] <= best) {
+            if (end > now.ends || made + openFrom[end] <= best || best != NONE && best >= mostJoined) {
                 return;
             }
             if (end == now.ends) {
@@ -1532,24 +1574,28 @@ public final class LooseEnds {
             int found = 0;
             int foundRow = NONE;
             // two KNOTS are the most there can be, and the first row that makes two is the least
-            for (int i = 0; i < now.ends * now.ends && found < 2; i++) {
-                int one = i / now.ends;
-                int other = i % now.ends;
-                if (now.isOpen(one, other)) {
-                    trial.copyFrom(now);
-                    int first = works.tryOn(trial, one, other) ? 1 : 0;
-                    findTry(trial);
-                    int row = one * 10 + other;
-                    row = bestRow == NONE ? row : row * 100 + bestRow;
-                    int both = first + best;
-                    if (foundRow == NONE || both > found || both == found && row < foundRow) {
-                        found = both;
-                        foundRow = row;
+            for (int one = 0; one < now.ends && found < 2; one++) {
+                for (int other = 0; other < now.ends && found < 2; other++) {
+                    if (now.isOpen(one, other)) {
+                        tryAndFindNext(one, other);
+                        if (foundRow == NONE || best > found || best == found && bestRow < foundRow) {
+                            found = best;
+                            foundRow = bestRow;
+                        }
                     }
                 }
             }
             best = found;
             bestRow = foundRow;
+        }
+
+        private void tryAndFindNext(int one, int other) {
+            trial.copyFrom(now);
+            int first = works.tryOn(trial, one, other) ? 1 : 0;
+            int row = one * 10 + other;
+            findTry(trial);
+            best += first;
+            bestRow = bestRow == NONE ? row : row * 100 + bestRow;
         }
 
         int fewestBlankets(int w) {
