@@ -263,6 +263,14 @@ public final class ActsTest {
             status(x, 0, 0, 0, 0, 0);
             Desk.due("each DAY is one ACT", x.count(9), 20);
         }
+        LooseEnds late = Desk.mill("t;t");
+        for (int i = 0; i < 16; i++) {
+            late.days(60);
+        }
+        Desk.due("beyond the last DAY", late.years(40, 5), -1);
+        Desk.due("that changes nothing", late.count(4), 960);
+        Desk.due("up to the last DAY", late.years(39, 5), 999);
+        status(late, 0, 0, 0, 0, 0);
         LooseEnds x = Desk.mill("t;t");
         Desk.due("years(0)", x.years(0, 1), -1);
         Desk.due("years(61)", x.years(61, 1), -1);

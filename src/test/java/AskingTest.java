@@ -99,6 +99,8 @@ public final class AskingTest {
         tale(Desk.mill("tc0l9;tc10l9;tc20l9"), 0, 9);
         // the shortest row of those with most LENGTH
         tale(Desk.mill("tc0l5;tc0l5;tc20l10"), 2, 10);
+        // the least row, though its ENDS are higher together
+        tale(Desk.mill("tc0;tc20;tc20;tc0"), 3, 10);
         // 1 lies between the others
         tale(Desk.mill("tc6;tc8;tc10"), 12, 15);
         tale(Desk.mill("tc8;tc6;tc10"), 102, 15);

@@ -348,6 +348,11 @@ public final class TextsTest {
         by("y:0-9999*9999-9999*9999+9999*100+101", 1);
         by("y:0-9999*9999-9999*9999+9999*100+100", 0);
         by("y:0009", 1);
+        // as long as the TAPE can be
+        by("y:" + "1-".repeat(59) + "0" + "+0".repeat(58) + "+5", 0);
+        by("y:59" + "-1".repeat(59) + "+0".repeat(58) + "+1", 1);
+        by("y:59" + "-1".repeat(59) + "+0".repeat(59), 0);
+        by(" ".repeat(237) + "y:1", 1);
     }
 
     private static void conditions() {
