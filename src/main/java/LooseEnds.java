@@ -881,9 +881,7 @@ public final class LooseEnds {
         private boolean readAtom(int depth) {
             int sign = tape.sign();
             if (Tape.isDigit(sign)) {
-                int value = tape.number(MOST_DIGITS);
-                write(value);
-                return value != NONE;
+                return readNumber();
             }
             if (sign == '[') {
                 if (depth >= DEEPEST) {
@@ -898,6 +896,15 @@ public final class LooseEnds {
             }
             tape.at++;
             write(Judge.LETTER + letter);
+            return true;
+        }
+
+        private boolean readNumber() {
+            int value = tape.number(MOST_DIGITS);
+            if (value == NONE) {
+                return false;
+            }
+            write(value);
             return true;
         }
 
