@@ -176,7 +176,13 @@ public final class Promise20FitsTest extends Cases {
     }
 
     static void andOrNot() {
-        String[] truths = {"1=2", "1=1"};
+        String[][] signs = {{"1=2", "1=1"}, {"2<2", "1<2"}, {"2>2", "2>1"}};
+        for (String[] truths : signs) {
+            andOrNot(truths);
+        }
+    }
+
+    private static void andOrNot(String[] truths) {
         for (int a = 0; a < 2; a++) {
             by("y:!" + truths[a] + "?1", 1 - a);
             by("y:!!" + truths[a] + "?1", a);

@@ -76,6 +76,13 @@ public final class Promise22KnotsTest extends Cases {
         knots(mill("se4;tc0;tc8;tc4"), 291, 2);
     }
 
+    static void theMostThoughALesserRowHasFewer() {
+        // 0 and 1 go with one another and with two more each: knotted with one another they make three
+        knots(mill("se4;tc8p3;tc12p3;tc4p3;tc8p1;tc16p3;tc12p5"), 249091, 4);
+        // 3 goes with 1 alone: 2, 0, 1, 3
+        knots(mill("se3;tc4;tc6;tc3;tc9"), 1309, 3);
+    }
+
     static void nothingFades() {
         knots(alike(3, "se0f9"), 129, 2);
         // 1 goes with both, as long as it has not FADED

@@ -52,6 +52,7 @@ public final class Promise23TaleTest extends Cases {
 
     static void ofSeveralTheShortestRow() {
         tale(mill("tc0l5;tc0l5;tc20l10"), 2, 10);
+        tale(mill("tc0l10;tc20l5;tc20l5"), 0, 10);
         tale(mill("tc0l5;tc0l5;tc20l9"), 1, 10);
     }
 
@@ -60,6 +61,9 @@ public final class Promise23TaleTest extends Cases {
         tale(mill("tc0l9;tc10l9;tc20l9"), 0, 9);
         tale(mill("tc6;tc8;tc10"), 12, 15);
         tale(mill("tc8;tc6;tc10"), 102, 15);
+        tale(mill("tc8;tc4;tc6;tc10"), 1203, 20);
+        // 0 goes with all, 1 with 0 and 4 alone
+        tale(mill("se3;tc3;tc5;tc1;tc1;tc3"), 1423, 25);
     }
 
     static void nIsHowManyAreInTheRowSoFar() {
@@ -86,6 +90,11 @@ public final class Promise23TaleTest extends Cases {
         knot(x, 2, 3);
         x.sell(2);
         tale(x, 45, 2);
+        LooseEnds y = mill("sf0;tl1;tl9;tl9");
+        knot(y, 1, 2);
+        tale(y, 0, 1);
+        y.sell(1);
+        tale(y, 0, 1);
     }
 
     static void nothingChanges() {

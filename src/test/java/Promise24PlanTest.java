@@ -74,6 +74,42 @@ public final class Promise24PlanTest extends Cases {
     static void two() {
         plan(alike(7, ""), 2, 112, 2);
         plan(mill("sf0;tc0;tc0;tc20;tc20"), 2, 123, 2);
+        // 0 goes with none
+        plan(mill("sf0;tc0;tc20;tc20;tc20"), 2, 1223, 2);
+        plan(mill("sf0;tc0;tc3;tc6;tc9;tc12;tc15;tc17"), 2, 156, 1);
+        // 5 FADES to 14 by the first one, 2 from 4
+        plan(mill("tc0;tc3;tc6;tc9;tc12;tc15;tc17"), 2, 5645, 2);
+    }
+
+    static void ofSeveralTheLeastRow() {
+        LooseEnds x = alike(3, "sf0");
+        Desk.hold(x, "y:n=1?1");
+        knot(x, 0, 1);
+        // 12 fails, so that 1220 makes one KNOT, too; behind 20 there is none to come
+        plan(x, 2, 20, 1);
+    }
+
+    static void theMostOfAllNotOfTheLast() {
+        // 01 makes one; by 21, the last of all, 1 FADES away from 0
+        plan(mill("se0f9;t;t;tc20"), 2, 112, 1);
+    }
+
+    static void soldOnesAreNotTried() {
+        LooseEnds x = alike(5, "sf0");
+        knot(x, 0, 1);
+        x.sell(0);
+        plan(x, 1, 23, 1);
+        plan(x, 2, 2334, 2);
+    }
+
+    static void lengthAndDayAsNow() {
+        LooseEnds x = mill("sf0;tl1;tl2;tl3;tl4");
+        x.days(2);
+        Desk.hold(x, "y:l=5&t=2?1");
+        plan(x, 1, 3, 1);
+        plan(x, 2, 312, 2);
+        x.days(1);
+        plan(x, 2, 101, 0);
     }
 
     static void theyFade() {

@@ -120,7 +120,7 @@ public final class Promise29GameTest extends Cases {
 
     static void n1() {
         LooseEnds x = oneTale(3);
-        Desk.hold(x, "y:2-n");
+        Desk.hold(x, "y:n=1?1");
         due("fits", x.fits(0, 1), 0);
         game(x, 0, 2, 2);
     }

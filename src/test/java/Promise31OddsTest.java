@@ -142,6 +142,16 @@ public final class Promise31OddsTest extends Cases {
         odds(x, 2, 50, 0);
     }
 
+    static void lengthAndDayAsNow() {
+        LooseEnds x = mill("sf0;tl1;tl2;tl3;tl3");
+        x.days(2);
+        Desk.hold(x, "y:l=4&t=2?1");
+        odds(x, 0, 50, 750000000);
+        odds(x, 1, 50, 0);
+        x.days(1);
+        odds(x, 0, 50, 0);
+    }
+
     static void nothingChanges() {
         LooseEnds x = busy();
         x.odds(4, 50);

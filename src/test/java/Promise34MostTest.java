@@ -55,6 +55,14 @@ public final class Promise34MostTest extends Cases {
         most(x, 0, 0, 0, 4, 3);
     }
 
+    static void onesOfABiggerMillAreGone() {
+        LooseEnds x = mill("t;t;tl20c20p6;tl20c20p6;tl20c20p6;tl20c20p6;tl20c20p6");
+        due("LONGEST", x.most(0), 2);
+        Desk.tell(x, "t;tl6c11p3");
+        most(x, 1, 1, 1, 3, 0, 3, 0, 0);
+        due("SHARES of all", x.shares(0, 110), 50);
+    }
+
     static void nothingLoose() {
         // 35 times 7 by 4 is 61
         most(oneTale(7), 0, 0, 0, 0, 0, 0, 1, 61);
@@ -78,6 +86,19 @@ public final class Promise34MostTest extends Cases {
         due("2", x.most(5), 4);
         x.sell(0);
         due("2", x.most(5), 4);
+        LooseEnds y = alike(3, "sf0");
+        knot(y, 1, 2);
+        due("0", y.most(5), 1);
+        y.sell(1);
+        due("0", y.most(5), 1);
+    }
+
+    static void theRackByALawOfN() {
+        LooseEnds x = alike(3, "sf0");
+        Desk.hold(x, "y:n=1?1");
+        due("n is 1", x.most(5), 0);
+        Desk.hold(x, "y:n=1?0;y:1");
+        due("n is not more", x.most(5), 7);
     }
 
     static void theRackByWorthOf1And0() {
