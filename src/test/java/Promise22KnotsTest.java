@@ -81,6 +81,8 @@ public final class Promise22KnotsTest extends Cases {
         knots(mill("se4;tc8p3;tc12p3;tc4p3;tc8p1;tc16p3;tc12p5"), 249091, 4);
         // 3 goes with 1 alone: 2, 0, 1, 3
         knots(mill("se3;tc4;tc6;tc3;tc9"), 1309, 3);
+        // 4 goes with 0 alone, 3 with 1 alone: 4, 0, 2, 1, 3
+        knots(mill("se3;tc6;tc3;tc4;tc0;tc8"), 23190, 4);
     }
 
     static void nothingFades() {
